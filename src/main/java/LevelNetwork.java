@@ -137,19 +137,19 @@ public final class LevelNetwork {
     }
 
     public int getSetting(int setting) {
-        if (!isSetting(setting)) {
+        if (!isIndex(setting, SETTINGS)) {
             return BAD_VALUE;
         }
         return net.settings[setting];
     }
 
     public int collimation(int level) throws IndexOutOfBoundsException {
-        needLevel(level);
+        needIndex(level, net.levels);
         return net.collimations[level];
     }
 
     public int testNumber(int test, int what) throws IndexOutOfBoundsException {
-        needTest(test);
+        needIndex(test, net.tests);
         switch (what) {
             case 0:
                 return net.testLevels[test];
@@ -163,14 +163,14 @@ public final class LevelNetwork {
     }
 
     public int heldAt(int point) throws IndexOutOfBoundsException {
-        needPoint(point);
+        needIndex(point, net.points);
         return net.held[point];
     }
 
     // ---- lines and their setups
 
     public int lineProperty(int line, int what) throws IndexOutOfBoundsException {
-        needLine(line);
+        needIndex(line, net.lines);
         switch (what) {
             case 0:
                 return net.firsts[line];
@@ -192,18 +192,18 @@ public final class LevelNetwork {
     }
 
     public int reading(int line, int setup, int what) throws IndexOutOfBoundsException {
-        needLine(line);
+        needIndex(line, net.lines);
         if (!net.hasSetup(line, setup)) {
             return NOT_FOUND;
         }
-        if (!isNumber(what)) {
+        if (!isIndex(what, NUMBERS)) {
             return BAD_VALUE;
         }
         return net.readings[net.place(line, setup) + what];
     }
 
     public int stepOf(int line, int setup) throws IndexOutOfBoundsException {
-        needLine(line);
+        needIndex(line, net.lines);
         if (!net.hasSetup(line, setup)) {
             return NONE;
         }
@@ -211,22 +211,22 @@ public final class LevelNetwork {
     }
 
     public int riseOf(int line) throws IndexOutOfBoundsException {
-        needLine(line);
+        needIndex(line, net.lines);
         return net.lineRise(line);
     }
 
     public int collimationEffect(int line) throws IndexOutOfBoundsException {
-        needLine(line);
+        needIndex(line, net.lines);
         return -net.collimations[net.lineLevels[line]] * net.lineImbalance(line);
     }
 
     public int imbalance(int line) throws IndexOutOfBoundsException {
-        needLine(line);
+        needIndex(line, net.lines);
         return net.lineImbalance(line);
     }
 
     public int faultsOf(int line) throws IndexOutOfBoundsException {
-        needLine(line);
+        needIndex(line, net.lines);
         int faults = net.longSights(line);
         if (Math.abs(net.lineImbalance(line)) > net.settings[BALANCE]) {
             faults += 1000;
@@ -235,7 +235,7 @@ public final class LevelNetwork {
     }
 
     public long turningHeight(int line, int setup) throws IndexOutOfBoundsException {
-        needLine(line);
+        needIndex(line, net.lines);
         if (!net.hasSetup(line, setup)) {
             return NO_HEIGHT;
         }
@@ -251,12 +251,12 @@ public final class LevelNetwork {
     }
 
     public int pairOf(int line) throws IndexOutOfBoundsException {
-        needLine(line);
+        needIndex(line, net.lines);
         return net.findPair(line);
     }
 
     public int discrepancy(int line) throws IndexOutOfBoundsException {
-        needLine(line);
+        needIndex(line, net.lines);
         int pair = net.findPair(line);
         if (pair == NOT_FOUND) {
             return NONE;
@@ -267,7 +267,7 @@ public final class LevelNetwork {
     // ---- ways
 
     public int linesAt(int point) throws IndexOutOfBoundsException {
-        needPoint(point);
+        needIndex(point, net.points);
         int found = 0;
         for (int line = 0; line < net.lines; line++) {
             if (net.across(net.active, line, point) != NOT_FOUND) {
@@ -278,7 +278,7 @@ public final class LevelNetwork {
     }
 
     public int rootOf(int point) throws IndexOutOfBoundsException {
-        needPoint(point);
+        needIndex(point, net.points);
         loops.tree.grow(net, net.active);
         return loops.tree.roots[point];
     }
@@ -289,22 +289,22 @@ public final class LevelNetwork {
     }
 
     public int distance(int point, int other) throws IndexOutOfBoundsException {
-        needPoint(point);
-        needPoint(other);
+        needIndex(point, net.points);
+        needIndex(other, net.points);
         ways.measure(net, point);
         return ways.far[other];
     }
 
     public int riseBetween(int point, int other) throws IndexOutOfBoundsException {
-        needPoint(point);
-        needPoint(other);
+        needIndex(point, net.points);
+        needIndex(other, net.points);
         ways.trace(net, point, other);
         return ways.far[other] == NOT_FOUND ? NONE : ways.rise;
     }
 
     public int wayBetween(int point, int other) throws IndexOutOfBoundsException {
-        needPoint(point);
-        needPoint(other);
+        needIndex(point, net.points);
+        needIndex(other, net.points);
         ways.trace(net, point, other);
         return ways.lines;
     }
@@ -333,7 +333,7 @@ public final class LevelNetwork {
     public int loopLine(int loop, int k) throws IndexOutOfBoundsException {
         needLoop(loop);
         loops.walk(net, loops.ownLines[loop]);
-        if (k < 0 || k >= loops.steps) {
+        if (!isIndex(k, loops.steps)) {
             return NOT_FOUND;
         }
         return loops.way[k];
@@ -356,13 +356,7 @@ public final class LevelNetwork {
 
     public int badLoops() {
         loops.find(net, net.active);
-        int bad = 0;
-        for (int loop = 0; loop < loops.count; loop++) {
-            if (loops.excess(loop) > 0) {
-                bad |= 1 << loop;
-            }
-        }
-        return bad;
+        return loops.badSet();
     }
 
     public int worstLoop() {
@@ -393,22 +387,16 @@ public final class LevelNetwork {
     }
 
     public int badWithout(int line) throws IndexOutOfBoundsException {
-        needLine(line);
+        needIndex(line, net.lines);
         loops.find(net, net.active & ~(1 << line));
-        int bad = 0;
-        for (int loop = 0; loop < loops.count; loop++) {
-            if (loops.excess(loop) > 0) {
-                bad++;
-            }
-        }
-        return bad;
+        return Integer.bitCount(loops.badSet());
     }
 
     // ---- heights
 
     public int benchGap(int point, int other) throws IndexOutOfBoundsException {
-        needPoint(point);
-        needPoint(other);
+        needIndex(point, net.points);
+        needIndex(other, net.points);
         if (net.held[point] == NOT_FOUND || net.held[other] == NOT_FOUND) {
             return NONE;
         }
@@ -420,7 +408,7 @@ public final class LevelNetwork {
     }
 
     public long provisional(int point) throws IndexOutOfBoundsException {
-        needPoint(point);
+        needIndex(point, net.points);
         heights.carry(net);
         return heights.provisional[point];
     }
@@ -441,12 +429,12 @@ public final class LevelNetwork {
     }
 
     public long heightOf(int point) throws IndexOutOfBoundsException {
-        needPoint(point);
+        needIndex(point, net.points);
         return heights.settledHeight(point);
     }
 
     public long residual(int line) throws IndexOutOfBoundsException {
-        needLine(line);
+        needIndex(line, net.lines);
         return heights.misfit(net, line);
     }
 
@@ -526,7 +514,7 @@ public final class LevelNetwork {
     // ---- changes
 
     public int hold(int point, int height) {
-        if (point < 0 || point >= net.points) {
+        if (!isIndex(point, net.points)) {
             return NOT_FOUND;
         }
         if (height < 0 || height > MAX_HEIGHT) {
@@ -538,7 +526,7 @@ public final class LevelNetwork {
     }
 
     public int release(int point) {
-        if (point < 0 || point >= net.points || net.held[point] == NOT_FOUND) {
+        if (!isIndex(point, net.points) || net.held[point] == NOT_FOUND) {
             return NOT_FOUND;
         }
         keepBefore(History.HELD, point, net.held[point]);
@@ -547,10 +535,10 @@ public final class LevelNetwork {
     }
 
     public int setReading(int line, int setup, int what, int value) {
-        if (line < 0 || line >= net.lines || !net.hasSetup(line, setup)) {
+        if (!isIndex(line, net.lines) || !net.hasSetup(line, setup)) {
             return NOT_FOUND;
         }
-        if (!isNumber(what) || !fits(what, value)) {
+        if (!isIndex(what, NUMBERS) || !fits(what, value)) {
             return BAD_VALUE;
         }
         int place = net.place(line, setup) + what;
@@ -561,7 +549,7 @@ public final class LevelNetwork {
     }
 
     public int addSetup(int line, int back, int fore, int backDistance, int foreDistance) {
-        if (line < 0 || line >= net.lines) {
+        if (!isIndex(line, net.lines)) {
             return NOT_FOUND;
         }
         if (!fits(BACK, back) || !fits(FORE, fore)
@@ -583,7 +571,7 @@ public final class LevelNetwork {
     }
 
     public int setActive(int line, boolean active) {
-        if (line < 0 || line >= net.lines) {
+        if (!isIndex(line, net.lines)) {
             return NOT_FOUND;
         }
         keepBefore(History.ACTIVE, line, net.active);
@@ -596,7 +584,7 @@ public final class LevelNetwork {
     }
 
     public int setCollimation(int level, int collimation) {
-        if (level < 0 || level >= net.levels
+        if (!isIndex(level, net.levels)
                 || collimation < -MAX_COLLIMATION || collimation > MAX_COLLIMATION) {
             return NONE;
         }
@@ -604,7 +592,7 @@ public final class LevelNetwork {
     }
 
     public int applyTest(int test) {
-        if (test < 0 || test >= net.tests) {
+        if (!isIndex(test, net.tests)) {
             return NONE;
         }
         int result = net.testResult(test);
@@ -623,7 +611,7 @@ public final class LevelNetwork {
     }
 
     public int setSetting(int setting, int value) {
-        if (!isSetting(setting)
+        if (!isIndex(setting, SETTINGS)
                 || value < LEAST_SETTING[setting] || value > GREATEST_SETTING[setting]) {
             return BAD_VALUE;
         }
@@ -660,44 +648,20 @@ public final class LevelNetwork {
         return Integer.bitCount(net.active & ~loops.tree.branches);
     }
 
-    private void needLevel(int level) {
-        if (level < 0 || level >= net.levels) {
-            throw new IndexOutOfBoundsException("no such level");
-        }
+    private static boolean isIndex(int index, int count) {
+        return index >= 0 && index < count;
     }
 
-    private void needPoint(int point) {
-        if (point < 0 || point >= net.points) {
-            throw new IndexOutOfBoundsException("no such point");
-        }
-    }
-
-    private void needLine(int line) {
-        if (line < 0 || line >= net.lines) {
-            throw new IndexOutOfBoundsException("no such line");
-        }
-    }
-
-    private void needTest(int test) {
-        if (test < 0 || test >= net.tests) {
-            throw new IndexOutOfBoundsException("no such test");
+    private static void needIndex(int index, int count) {
+        if (!isIndex(index, count)) {
+            throw new IndexOutOfBoundsException("no such index");
         }
     }
 
     /** Finds the loops too: before that no index can be looked at. */
     private void needLoop(int loop) {
         loops.find(net, net.active);
-        if (loop < 0 || loop >= loops.count) {
-            throw new IndexOutOfBoundsException("no such loop");
-        }
-    }
-
-    private static boolean isSetting(int setting) {
-        return setting >= 0 && setting < SETTINGS;
-    }
-
-    private static boolean isNumber(int what) {
-        return what >= 0 && what < NUMBERS;
+        needIndex(loop, loops.count);
     }
 
     private static boolean fits(int what, int value) {
@@ -778,7 +742,7 @@ public final class LevelNetwork {
         }
 
         boolean hasSetup(int line, int setup) {
-            return setup >= 0 && setup < setupCounts[line];
+            return isIndex(setup, setupCounts[line]);
         }
 
         int place(int line, int setup) {
@@ -1418,6 +1382,16 @@ public final class LevelNetwork {
         /** By how much a loop's misclosure exceeds what is allowed; it is bad if this is above 0. */
         int excess(int loop) {
             return Math.abs(misclosures[loop]) - limits[loop];
+        }
+
+        int badSet() {
+            int bad = 0;
+            for (int loop = 0; loop < count; loop++) {
+                if (excess(loop) > 0) {
+                    bad |= 1 << loop;
+                }
+            }
+            return bad;
         }
 
         /** In how many bad loops a line is; 0 if it is in a good one too. */
