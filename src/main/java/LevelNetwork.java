@@ -37,7 +37,6 @@ public final class LevelNetwork {
     private static final int[] GREATEST_SETTING = {500, 100, 800};
     private static final int[] INITIAL_SETTING = {40, 60, 20};
 
-    private final byte[] buffer;
     private final TextReader reader;
     private final Ways ways;
     private final Loops loops;
@@ -46,49 +45,39 @@ public final class LevelNetwork {
     private Network net;
     /** What load reads into: a text with an error must leave the network alone. */
     private Network draft;
-    private int bytes;
     private int errorAt;
 
     public LevelNetwork() {
-        buffer = new byte[MAX_BYTES];
-        reader = new TextReader(buffer);
+        reader = new TextReader();
         ways = new Ways();
         loops = new Loops();
         heights = new Heights();
         history = new History();
         net = new Network();
         draft = new Network();
-        bytes = 0;
         errorAt = NOT_FOUND;
     }
 
     // ---- the text
 
     public int feed(int a, int b, int c, int d, int e) {
-        if (bytes + FEED_BYTES > MAX_BYTES) {
+        if (reader.bytes + FEED_BYTES > MAX_BYTES) {
             return FULL;
         }
-        append(a);
-        append(b);
-        append(c);
-        append(d);
-        append(e);
-        return bytes;
-    }
-
-    private void append(int four) {
-        for (int shift = 24; shift >= 0; shift -= 8) {
-            buffer[bytes] = (byte) (four >> shift);
-            bytes++;
-        }
+        reader.append(a);
+        reader.append(b);
+        reader.append(c);
+        reader.append(d);
+        reader.append(e);
+        return reader.bytes;
     }
 
     public int load(int length) {
-        if (length < 0 || length > bytes) {
+        if (length < 0 || length > reader.bytes) {
             return BAD_VALUE;
         }
         int result = reader.readText(draft, length);
-        bytes = 0;
+        reader.bytes = 0;
         if (result < 0) {
             errorAt = reader.at;
             return result;
@@ -848,12 +837,27 @@ public final class LevelNetwork {
         }
     }
 
-    /** Reads a text into a network; where it has an error, it stays at the token that is wrong. */
+    /**
+     * Keeps the bytes that are fed, and reads them into a network; where the text has an error, it
+     * stays at the token that is wrong.
+     */
     private static final class TextReader {
         private static final int END = 0, WORD = 1, INTEGER = 2, SEMICOLON = 3, OTHER = 4;
         private static final int MAX_LETTERS = 6;
 
-        final byte[] text;
+        private static final char[] LEVEL_WORD = {'l', 'e', 'v', 'e', 'l'};
+        private static final char[] DOWN_WORD = {'d', 'o', 'w', 'n'};
+        private static final char[] POINT_WORD = {'p', 'o', 'i', 'n', 't'};
+        private static final char[] LINE_WORD = {'l', 'i', 'n', 'e'};
+        private static final char[] TEST_WORD = {'t', 'e', 's', 't'};
+        private static final char[] SET_WORD = {'s', 'e', 't'};
+        private static final char[] TOLERANCE_WORD = {'t', 'o', 'l', 'e', 'r', 'a', 'n', 'c', 'e'};
+        private static final char[] SIGHT_WORD = {'s', 'i', 'g', 'h', 't'};
+        private static final char[] BALANCE_WORD = {'b', 'a', 'l', 'a', 'n', 'c', 'e'};
+
+        final byte[] text = new byte[MAX_BYTES];
+        /** How many bytes were fed, and how many of them are read. */
+        int bytes;
         int end;
         /** Where the token begins, and where the next one may begin. */
         int at;
@@ -867,11 +871,15 @@ public final class LevelNetwork {
         /** The settings that were given: bit k for setting k. */
         int given;
 
-        TextReader(byte[] text) {
-            this.text = text;
+        /** Appends the four bytes of a number; the caller sees to it that there is room. */
+        void append(int four) {
+            for (int shift = 24; shift >= 0; shift -= 8) {
+                text[bytes] = (byte) (four >> shift);
+                bytes++;
+            }
         }
 
-        /** Returns the number of statements or the error code; length is at most the text's. */
+        /** Returns the number of statements or the error code; so many bytes at least were fed. */
         int readText(Network net, int length) {
             end = length;
             next = 0;
@@ -895,19 +903,19 @@ public final class LevelNetwork {
         }
 
         private boolean readStatement(Network net) {
-            if (isWord("level")) {
+            if (isWord(LEVEL_WORD)) {
                 return readLevel(net);
             }
-            if (isWord("point")) {
+            if (isWord(POINT_WORD)) {
                 return readPoint(net);
             }
-            if (isWord("line")) {
+            if (isWord(LINE_WORD)) {
                 return readLine(net);
             }
-            if (isWord("test")) {
+            if (isWord(TEST_WORD)) {
                 return readTest(net);
             }
-            return isWord("set") ? readSetting(net) : fail(SYNTAX_ERROR);
+            return isWord(SET_WORD) ? readSetting(net) : fail(SYNTAX_ERROR);
         }
 
         private boolean readLevel(Network net) {
@@ -925,7 +933,7 @@ public final class LevelNetwork {
             }
             int collimation = value;
             advance();
-            if (isWord("down")) {
+            if (isWord(DOWN_WORD)) {
                 collimation = -collimation;
                 advance();
             }
@@ -1024,11 +1032,11 @@ public final class LevelNetwork {
         private boolean readSetting(Network net) {
             advance();
             int setting = NOT_FOUND;
-            if (isWord("tolerance")) {
+            if (isWord(TOLERANCE_WORD)) {
                 setting = TOLERANCE;
-            } else if (isWord("sight")) {
+            } else if (isWord(SIGHT_WORD)) {
                 setting = SIGHT;
-            } else if (isWord("balance")) {
+            } else if (isWord(BALANCE_WORD)) {
                 setting = BALANCE;
             }
             if (setting == NOT_FOUND) {
@@ -1092,16 +1100,16 @@ public final class LevelNetwork {
 
         private boolean isName() {
             return kind == WORD && next - at <= MAX_LETTERS
-                    && !isWord("level") && !isWord("down") && !isWord("point") && !isWord("line")
-                    && !isWord("test") && !isWord("set") && !isWord("sight");
+                    && !isWord(LEVEL_WORD) && !isWord(DOWN_WORD) && !isWord(POINT_WORD) && !isWord(LINE_WORD)
+                    && !isWord(TEST_WORD) && !isWord(SET_WORD) && !isWord(SIGHT_WORD);
         }
 
-        private boolean isWord(String word) {
-            if (kind != WORD || next - at != word.length()) {
+        private boolean isWord(char[] word) {
+            if (kind != WORD || next - at != word.length) {
                 return false;
             }
-            for (int k = 0; k < word.length(); k++) {
-                if (text[at + k] != word.charAt(k)) {
+            for (int k = 0; k < word.length; k++) {
+                if (text[at + k] != word[k]) {
                     return false;
                 }
             }
@@ -1186,8 +1194,9 @@ public final class LevelNetwork {
                 if (net.isActive(line)) {
                     int first = net.firsts[line];
                     int second = net.seconds[line];
-                    changed |= shorten(first, second, lengths[line]);
-                    changed |= shorten(second, first, lengths[line]);
+                    boolean forward = shorten(first, second, lengths[line]);
+                    boolean backward = shorten(second, first, lengths[line]);
+                    changed = changed || forward || backward;
                 }
             }
             return changed;
@@ -1326,17 +1335,24 @@ public final class LevelNetwork {
             int resting = 0;
             int here = net.seconds[own];
             int goal = net.firsts[own];
-            // Both are in one tree: the deeper one, or either of two that are equally deep and not the
-            // same, has a line up; so each climb brings one a line nearer to where their ways up meet.
+            // Both are in one tree: each climb of the deeper one brings them a line nearer to where
+            // their ways up meet, at the latest at the root, which alone has no line up.
             for (int climb = 0; climb < MAX_POINTS && here != goal; climb++) {
-                if (tree.depths[here] >= tree.depths[goal]) {
-                    way[steps] = stepFrom(net, tree.upLines[here], here);
+                boolean fromHere = tree.depths[here] >= tree.depths[goal];
+                int low = fromHere ? here : goal;
+                int up = tree.upPoints[low];
+                int line = tree.upLines[low];
+                if (line == NOT_FOUND) {
+                    break;
+                }
+                if (fromHere) {
+                    way[steps] = stepFrom(net, line, here);
                     steps++;
-                    here = tree.upPoints[here];
+                    here = up;
                 } else {
-                    rest[resting] = stepFrom(net, tree.upLines[goal], tree.upPoints[goal]);
+                    rest[resting] = stepFrom(net, line, up);
                     resting++;
-                    goal = tree.upPoints[goal];
+                    goal = up;
                 }
             }
             for (int k = resting - 1; k >= 0; k--) {
@@ -1482,7 +1498,7 @@ public final class LevelNetwork {
             for (int point = 0; point < net.points; point++) {
                 if (adjusted[point] != NO_HEIGHT && net.held[point] == NOT_FOUND) {
                     long mean = weightedMean(point);
-                    changed |= mean != adjusted[point];
+                    changed = changed || mean != adjusted[point];
                     adjusted[point] = mean;
                 }
             }

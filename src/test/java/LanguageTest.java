@@ -53,7 +53,7 @@ public final class LanguageTest {
                 boolean fine = line.matches("        throw new IndexOutOfBoundsException\\(\"\"\\);")
                         || line.matches("            throw new IndexOutOfBoundsException\\(\"\"\\);")
                         || line.matches("        final \\w+(\\[\\])? \\w+ = new \\w+[\\[(].*[\\])];")
-                        || line.matches("        \\w+ = new \\w+(\\(\\w*\\)|\\[MAX_BYTES\\]);");
+                        || line.matches("        \\w+ = new \\w+\\(\\);");
                 Check.due("12: made in a call: " + line.trim(), fine, true);
             }
         }
