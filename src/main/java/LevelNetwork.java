@@ -883,7 +883,6 @@ public final class LevelNetwork {
         int readText(Network net, int length) {
             end = length;
             next = 0;
-            error = 0;
             given = 0;
             net.clear();
             advance();

@@ -174,6 +174,10 @@ public final class HeightTest {
         x.setActive(2, false);
         x.adjust(1);
         Check.due("49: 2000 / 301 and 2000 / 299 are both 6", x.worstLine(), 0);
+        x = Check.network("level u 1;level v 0;point a 0;point b 0;line a b u 0 0 1 2;"
+                + "line a b v 2 0 100 100 0 0 100 100 0 0 100 99;");
+        x.adjust(1);
+        Check.due("49: 1000 / 3 and 200000 / 599 are both 333", x.worstLine(), 0);
     }
 
     private static void moved() {
@@ -208,6 +212,10 @@ public final class HeightTest {
         // -5 * 142857, 1 * 333333, 0 * 166666: -380952 / 642856 is -0.59
         x.adjust(1);
         Check.due("61: to the nearest integer", x.heightOf(1), -1);
+        x = Check.network(points + "line a b u 0 0 2 4;line c b v 0 0 1 1;");
+        // 2 * 166666, 0 * 500000: 333332 / 666666
+        x.adjust(1);
+        Check.due("61: just below 0.5", x.heightOf(1), 0);
     }
 
     private static void nothingHeld() {
