@@ -4,6 +4,8 @@ final class Check {
 
     private static int wrong = 0;
     private static int looked = 0;
+    /** What the answers are looked at for; stands before what is told of a wrong one. */
+    private static String about = "";
 
     private Check() {
     }
@@ -12,12 +14,24 @@ final class Check {
         void run();
     }
 
+    static void about(String text) {
+        about = text.isEmpty() ? "" : text + " :: ";
+    }
+
+    static int looked() {
+        return looked;
+    }
+
     static void due(String what, long got, long want) {
         looked++;
         if (got != want) {
-            wrong++;
-            System.out.println(what + ": answered " + got + ", due is " + want);
+            tell(what + ": answered " + got + ", due is " + want);
         }
+    }
+
+    private static void tell(String what) {
+        wrong++;
+        System.out.println(about + what);
     }
 
     static void due(String what, boolean got, boolean want) {
@@ -34,15 +48,13 @@ final class Check {
             thrown = e.getClass().getSimpleName();
         }
         if (!thrown.equals("IndexOutOfBoundsException")) {
-            wrong++;
-            System.out.println(what + ": threw " + thrown + ", due is IndexOutOfBoundsException");
+            tell(what + ": threw " + thrown + ", due is IndexOutOfBoundsException");
         }
     }
 
     static void fail(String what) {
         looked++;
-        wrong++;
-        System.out.println(what);
+        tell(what);
     }
 
     /** Feeds a text; its end is filled up with spaces that load does not read. */
@@ -73,6 +85,23 @@ final class Check {
             fail("load answered " + result + " at " + x.errorPosition() + " for " + text);
         }
         return x;
+    }
+
+    /** A new object that reads the text; so many statements are due. */
+    static LevelNetwork good(String text, int statements) {
+        LevelNetwork x = new LevelNetwork();
+        due("load of " + text, load(x, text), statements);
+        due("no error in " + text, x.errorPosition(), LevelNetwork.NOT_FOUND);
+        return x;
+    }
+
+    /** The text has an error. */
+    static void bad(String text, int code, int position) {
+        LevelNetwork x = new LevelNetwork();
+        due("load of " + text, load(x, text), code);
+        due("position of the error of " + text, x.errorPosition(), position);
+        due("points after " + text, x.pointCount(), 0);
+        due("sight after " + text, x.getSetting(LevelNetwork.SIGHT), 60);
     }
 
     /** A name as the face gives it. */

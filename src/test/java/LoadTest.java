@@ -131,171 +131,171 @@ public final class LoadTest {
     }
 
     private static void emptyTexts() {
-        good("", 0);
-        good(" \n \n", 0);
-        bad(";", SYNTAX, 0);
-        bad("a", SYNTAX, 0);
-        bad("5", SYNTAX, 0);
-        bad("down;", SYNTAX, 0);
-        bad("sight 5;", SYNTAX, 0);
-        bad("tolerance 5;", SYNTAX, 0);
-        bad("levels v 0;", SYNTAX, 0);
-        bad("leve", SYNTAX, 0);
-        bad("pointa;", SYNTAX, 0);
-        bad("Level v 0;", SYNTAX, 0);
-        bad("\tpoint a;", SYNTAX, 0);
-        bad("\rpoint a;", SYNTAX, 0);
-        bad("point a;;", SYNTAX, 8);
-        bad("point\ta;", SYNTAX, 5);
+        Check.good("", 0);
+        Check.good(" \n \n", 0);
+        Check.bad(";", SYNTAX, 0);
+        Check.bad("a", SYNTAX, 0);
+        Check.bad("5", SYNTAX, 0);
+        Check.bad("down;", SYNTAX, 0);
+        Check.bad("sight 5;", SYNTAX, 0);
+        Check.bad("tolerance 5;", SYNTAX, 0);
+        Check.bad("levels v 0;", SYNTAX, 0);
+        Check.bad("leve", SYNTAX, 0);
+        Check.bad("pointa;", SYNTAX, 0);
+        Check.bad("Level v 0;", SYNTAX, 0);
+        Check.bad("\tpoint a;", SYNTAX, 0);
+        Check.bad("\rpoint a;", SYNTAX, 0);
+        Check.bad("point a;;", SYNTAX, 8);
+        Check.bad("point\ta;", SYNTAX, 5);
         for (char sign : new char[] {0, 1, 9, 11, 13, 31, 33, '/', ':', '`', '{', '~', 127, 128, 160, 186, 225, 255}) {
-            bad("  " + sign, SYNTAX, 2);
-            bad("point a" + sign + ";", SYNTAX, 7);
+            Check.bad("  " + sign, SYNTAX, 2);
+            Check.bad("point a" + sign + ";", SYNTAX, 7);
         }
     }
 
     private static void levels() {
-        bad("level", SYNTAX, 5);
-        bad("level ", SYNTAX, 6);
-        bad("level ;", SYNTAX, 6);
-        bad("level 5;", SYNTAX, 6);
-        bad("level v", SYNTAX, 7);
-        bad("level v;", SYNTAX, 7);
-        bad("level v \n ", SYNTAX, 10);
-        bad("level v a;", SYNTAX, 8);
-        bad("level v down 5;", SYNTAX, 8);
-        bad("level v -5;", SYNTAX, 8);
-        bad("level v 5", SYNTAX, 9);
-        bad("level v 5 6;", SYNTAX, 10);
-        bad("level v 5 up;", SYNTAX, 10);
-        bad("level v 5 down", SYNTAX, 14);
-        bad("level v 5 down down;", SYNTAX, 15);
-        bad("level v 201;", RANGE, 8);
-        bad("level v 201 down;", RANGE, 8);
-        bad("level v 201", RANGE, 8);
-        bad("level v 4294967296;", RANGE, 8);
-        bad("level v 18446744073709551616;", RANGE, 8);
-        bad("level v 99999999999999999999999999999999999999999999999999;", RANGE, 8);
-        Check.due("collimation 0", good("level v 0;", 1).collimation(0), 0);
-        Check.due("collimation 200", good("level v 200;", 1).collimation(0), 200);
-        Check.due("collimation -200", good("level v 200 down;", 1).collimation(0), -200);
-        Check.due("collimation -0", good("level v 0 down;", 1).collimation(0), 0);
-        Check.due("no space is needed", good("level v7down;", 1).collimation(0), -7);
-        Check.due("zeros before", good("level v 000000000000000000000000000000042;", 1).collimation(0), 42);
-        Check.due("newlines", good("level\nv\n\n9 \n down\n;\n", 1).collimation(0), -9);
-        bad("level v 5;level v 5;", DUPLICATE, 16);
-        bad("level v 5;point v;", DUPLICATE, 16);
-        bad("point v;level v 999;", DUPLICATE, 14);
-        bad("point v 1;point v 99999999;", DUPLICATE, 16);
-        bad("level v 999;level v", RANGE, 8);
+        Check.bad("level", SYNTAX, 5);
+        Check.bad("level ", SYNTAX, 6);
+        Check.bad("level ;", SYNTAX, 6);
+        Check.bad("level 5;", SYNTAX, 6);
+        Check.bad("level v", SYNTAX, 7);
+        Check.bad("level v;", SYNTAX, 7);
+        Check.bad("level v \n ", SYNTAX, 10);
+        Check.bad("level v a;", SYNTAX, 8);
+        Check.bad("level v down 5;", SYNTAX, 8);
+        Check.bad("level v -5;", SYNTAX, 8);
+        Check.bad("level v 5", SYNTAX, 9);
+        Check.bad("level v 5 6;", SYNTAX, 10);
+        Check.bad("level v 5 up;", SYNTAX, 10);
+        Check.bad("level v 5 down", SYNTAX, 14);
+        Check.bad("level v 5 down down;", SYNTAX, 15);
+        Check.bad("level v 201;", RANGE, 8);
+        Check.bad("level v 201 down;", RANGE, 8);
+        Check.bad("level v 201", RANGE, 8);
+        Check.bad("level v 4294967296;", RANGE, 8);
+        Check.bad("level v 18446744073709551616;", RANGE, 8);
+        Check.bad("level v 99999999999999999999999999999999999999999999999999;", RANGE, 8);
+        Check.due("collimation 0", Check.good("level v 0;", 1).collimation(0), 0);
+        Check.due("collimation 200", Check.good("level v 200;", 1).collimation(0), 200);
+        Check.due("collimation -200", Check.good("level v 200 down;", 1).collimation(0), -200);
+        Check.due("collimation -0", Check.good("level v 0 down;", 1).collimation(0), 0);
+        Check.due("no space is needed", Check.good("level v7down;", 1).collimation(0), -7);
+        Check.due("zeros before", Check.good("level v 000000000000000000000000000000042;", 1).collimation(0), 42);
+        Check.due("newlines", Check.good("level\nv\n\n9 \n down\n;\n", 1).collimation(0), -9);
+        Check.bad("level v 5;level v 5;", DUPLICATE, 16);
+        Check.bad("level v 5;point v;", DUPLICATE, 16);
+        Check.bad("point v;level v 999;", DUPLICATE, 14);
+        Check.bad("point v 1;point v 99999999;", DUPLICATE, 16);
+        Check.bad("level v 999;level v", RANGE, 8);
     }
 
     private static void names() {
         for (String word : new String[] {"level", "down", "point", "line", "test", "set", "sight",
             "balance", "tolerance", "abcdefg", "abcdefghijklmnopqrstuvwxyz"}) {
-            bad("level " + word + " 0;", SYNTAX, 6);
-            bad("point " + word + ";", SYNTAX, 6);
-            bad("level v 0;point a;line " + word + " a v 0 0 1 1;", SYNTAX, 23);
-            bad("level v 0;point a;line a " + word + " v 0 0 1 1;", SYNTAX, 25);
-            bad("level v 0;point a;point b;line a b " + word + " 0 0 1 1;", SYNTAX, 35);
-            bad("level v 0;test " + word + " 0 0 1 1 0 0 1 1;", SYNTAX, 15);
+            Check.bad("level " + word + " 0;", SYNTAX, 6);
+            Check.bad("point " + word + ";", SYNTAX, 6);
+            Check.bad("level v 0;point a;line " + word + " a v 0 0 1 1;", SYNTAX, 23);
+            Check.bad("level v 0;point a;line a " + word + " v 0 0 1 1;", SYNTAX, 25);
+            Check.bad("level v 0;point a;point b;line a b " + word + " 0 0 1 1;", SYNTAX, 35);
+            Check.bad("level v 0;test " + word + " 0 0 1 1 0 0 1 1;", SYNTAX, 15);
         }
         for (String word : new String[] {"levels", "lev", "downs", "dow", "points", "lines", "tests", "sets",
             "sights", "a", "z", "abcdef", "zzzzzz", "tolera", "balanc", "leve", "se", "tes"}) {
-            LevelNetwork x = good("point " + word + ";", 1);
+            LevelNetwork x = Check.good("point " + word + ";", 1);
             Check.due("10: the name " + word, x.pointNamed(Check.name(word)), 0);
-            x = good("level " + word + " 0;", 1);
+            x = Check.good("level " + word + " 0;", 1);
             Check.due("11: the name " + word, x.levelNamed(Check.name(word)), 0);
         }
     }
 
     private static void points() {
-        bad("point", SYNTAX, 5);
-        bad("point;", SYNTAX, 5);
-        bad("point a", SYNTAX, 7);
-        bad("point a b;", SYNTAX, 8);
-        bad("point a down;", SYNTAX, 8);
-        bad("point a 5 6;", SYNTAX, 10);
-        bad("point a 5", SYNTAX, 9);
-        bad("point a 10000000;", RANGE, 8);
-        bad("point a 4294967297;", RANGE, 8);
-        bad("point a;b", SYNTAX, 8);
-        Check.due("15: not held", good("point a;", 1).heldAt(0), LevelNetwork.NOT_FOUND);
-        Check.due("15: held at 0", good("point a 0;", 1).heldAt(0), 0);
-        Check.due("15: held at the top", good("point a 9999999;", 1).heldAt(0), 9999999);
-        Check.due("15: no space needed", good("point a5;", 1).heldAt(0), 5);
+        Check.bad("point", SYNTAX, 5);
+        Check.bad("point;", SYNTAX, 5);
+        Check.bad("point a", SYNTAX, 7);
+        Check.bad("point a b;", SYNTAX, 8);
+        Check.bad("point a down;", SYNTAX, 8);
+        Check.bad("point a 5 6;", SYNTAX, 10);
+        Check.bad("point a 5", SYNTAX, 9);
+        Check.bad("point a 10000000;", RANGE, 8);
+        Check.bad("point a 4294967297;", RANGE, 8);
+        Check.bad("point a;b", SYNTAX, 8);
+        Check.due("15: not held", Check.good("point a;", 1).heldAt(0), LevelNetwork.NOT_FOUND);
+        Check.due("15: held at 0", Check.good("point a 0;", 1).heldAt(0), 0);
+        Check.due("15: held at the top", Check.good("point a 9999999;", 1).heldAt(0), 9999999);
+        Check.due("15: no space needed", Check.good("point a5;", 1).heldAt(0), 5);
     }
 
     private static void lines() {
         String before = "level v 0;point a;point b;";
-        good(before + "line a b v 0 0 1 1;", 4);
-        good(before + "line a b v 40000 40000 100 100;", 4);
-        good(before + "line b a v00 00 001 1;", 4);
-        bad(before + "line", SYNTAX, 30);
-        bad(before + "line 5", SYNTAX, 31);
-        bad(before + "line c b v 0 0 1 1;", NAME, 31);
-        bad(before + "line v b v 0 0 1 1;", NAME, 31);
-        bad(before + "line a", SYNTAX, 32);
-        bad(before + "line a c v 0 0 1 1;", NAME, 33);
-        bad(before + "line a v v 0 0 1 1;", NAME, 33);
-        bad(before + "line a a v 0 0 1 1;", DUPLICATE, 33);
-        bad(before + "line a 7 v 0 0 1 1;", SYNTAX, 33);
-        bad(before + "line a b c 0 0 1 1;", NAME, 35);
-        bad(before + "line a b a 0 0 1 1;", NAME, 35);
-        bad(before + "line a b;", SYNTAX, 34);
-        bad(before + "line a b 0 0 1 1;", SYNTAX, 35);
-        bad("level v 0;point a;line a b v 0 0 1 1;point b;", NAME, 25);
-        bad("point a;point b;line a b v 0 0 1 1;level v 0;", NAME, 25);
+        Check.good(before + "line a b v 0 0 1 1;", 4);
+        Check.good(before + "line a b v 40000 40000 100 100;", 4);
+        Check.good(before + "line b a v00 00 001 1;", 4);
+        Check.bad(before + "line", SYNTAX, 30);
+        Check.bad(before + "line 5", SYNTAX, 31);
+        Check.bad(before + "line c b v 0 0 1 1;", NAME, 31);
+        Check.bad(before + "line v b v 0 0 1 1;", NAME, 31);
+        Check.bad(before + "line a", SYNTAX, 32);
+        Check.bad(before + "line a c v 0 0 1 1;", NAME, 33);
+        Check.bad(before + "line a v v 0 0 1 1;", NAME, 33);
+        Check.bad(before + "line a a v 0 0 1 1;", DUPLICATE, 33);
+        Check.bad(before + "line a 7 v 0 0 1 1;", SYNTAX, 33);
+        Check.bad(before + "line a b c 0 0 1 1;", NAME, 35);
+        Check.bad(before + "line a b a 0 0 1 1;", NAME, 35);
+        Check.bad(before + "line a b;", SYNTAX, 34);
+        Check.bad(before + "line a b 0 0 1 1;", SYNTAX, 35);
+        Check.bad("level v 0;point a;line a b v 0 0 1 1;point b;", NAME, 25);
+        Check.bad("point a;point b;line a b v 0 0 1 1;level v 0;", NAME, 25);
     }
 
     private static void setups() {
         String before = "level v 0;point a;point b;line a b v";
-        bad(before, SYNTAX, 36);
-        bad(before + ";", SYNTAX, 36);
-        bad(before + " 0", SYNTAX, 38);
-        bad(before + " 0;", SYNTAX, 38);
-        bad(before + " 0 0;", SYNTAX, 40);
-        bad(before + " 0 0 1;", SYNTAX, 42);
-        bad(before + " 0 0 1 1", SYNTAX, 44);
-        bad(before + " 0 0 1 1 5;", SYNTAX, 46);
-        bad(before + " 0 0 1 1 a;", SYNTAX, 45);
-        bad(before + " 0 0 1 1 5 5 1;", SYNTAX, 50);
-        bad(before + " 40001 0 1 1;", RANGE, 37);
-        bad(before + " 0 40001 1 1;", RANGE, 39);
-        bad(before + " 0 0 0 1;", RANGE, 41);
-        bad(before + " 0 0 101 1;", RANGE, 41);
-        bad(before + " 0 0 1 0;", RANGE, 43);
-        bad(before + " 0 0 1 101;", RANGE, 43);
-        bad(before + " 0 0 1 1 40001;", RANGE, 45);
+        Check.bad(before, SYNTAX, 36);
+        Check.bad(before + ";", SYNTAX, 36);
+        Check.bad(before + " 0", SYNTAX, 38);
+        Check.bad(before + " 0;", SYNTAX, 38);
+        Check.bad(before + " 0 0;", SYNTAX, 40);
+        Check.bad(before + " 0 0 1;", SYNTAX, 42);
+        Check.bad(before + " 0 0 1 1", SYNTAX, 44);
+        Check.bad(before + " 0 0 1 1 5;", SYNTAX, 46);
+        Check.bad(before + " 0 0 1 1 a;", SYNTAX, 45);
+        Check.bad(before + " 0 0 1 1 5 5 1;", SYNTAX, 50);
+        Check.bad(before + " 40001 0 1 1;", RANGE, 37);
+        Check.bad(before + " 0 40001 1 1;", RANGE, 39);
+        Check.bad(before + " 0 0 0 1;", RANGE, 41);
+        Check.bad(before + " 0 0 101 1;", RANGE, 41);
+        Check.bad(before + " 0 0 1 0;", RANGE, 43);
+        Check.bad(before + " 0 0 1 101;", RANGE, 43);
+        Check.bad(before + " 0 0 1 1 40001;", RANGE, 45);
         String eight = before + " 1 2 3 4".repeat(8);
-        LevelNetwork x = good(eight + ";", 4);
+        LevelNetwork x = Check.good(eight + ";", 4);
         Check.due("16: eight setups", x.lineProperty(0, 3), 8);
         Check.due("17: the last one", x.reading(0, 7, 3), 4);
-        bad(eight + " 0 0 1 1;", COUNT, 101);
-        bad(eight + " 40000", COUNT, 101);
-        bad(eight + " 40001", RANGE, 101);
-        bad(eight + " a", SYNTAX, 101);
-        bad(eight, SYNTAX, 100);
+        Check.bad(eight + " 0 0 1 1;", COUNT, 101);
+        Check.bad(eight + " 40000", COUNT, 101);
+        Check.bad(eight + " 40001", RANGE, 101);
+        Check.bad(eight + " a", SYNTAX, 101);
+        Check.bad(eight, SYNTAX, 100);
     }
 
     private static void tests() {
         String before = "level v 0;point a;";
-        good(before + "test v 0 0 1 1 0 0 1 1;", 3);
-        good(before + "test v 40000 40000 100 100 40000 40000 100 100;", 3);
-        bad(before + "test", SYNTAX, 22);
-        bad(before + "test;", SYNTAX, 22);
-        bad(before + "test a 0 0 1 1 0 0 1 1;", NAME, 23);
-        bad(before + "test w 0 0 1 1 0 0 1 1;", NAME, 23);
-        bad(before + "test v;", SYNTAX, 24);
-        bad(before + "test v 0 0 1 1;", SYNTAX, 32);
-        bad(before + "test v 0 0 1 1 0 0 1;", SYNTAX, 38);
-        bad(before + "test v 0 0 1 1 0 0 1 1 0;", SYNTAX, 41);
-        bad(before + "test v 0 0 1 1 0 0 1 1", SYNTAX, 40);
+        Check.good(before + "test v 0 0 1 1 0 0 1 1;", 3);
+        Check.good(before + "test v 40000 40000 100 100 40000 40000 100 100;", 3);
+        Check.bad(before + "test", SYNTAX, 22);
+        Check.bad(before + "test;", SYNTAX, 22);
+        Check.bad(before + "test a 0 0 1 1 0 0 1 1;", NAME, 23);
+        Check.bad(before + "test w 0 0 1 1 0 0 1 1;", NAME, 23);
+        Check.bad(before + "test v;", SYNTAX, 24);
+        Check.bad(before + "test v 0 0 1 1;", SYNTAX, 32);
+        Check.bad(before + "test v 0 0 1 1 0 0 1;", SYNTAX, 38);
+        Check.bad(before + "test v 0 0 1 1 0 0 1 1 0;", SYNTAX, 41);
+        Check.bad(before + "test v 0 0 1 1 0 0 1 1", SYNTAX, 40);
         for (int k = 0; k < 8; k++) {
             boolean distance = k % 4 >= 2;
-            bad(before + "test v" + numbers(k, distance ? "101" : "40001"), RANGE, 25 + 2 * k);
-            bad(before + "test v" + numbers(k, "x"), SYNTAX, 25 + 2 * k);
+            Check.bad(before + "test v" + numbers(k, distance ? "101" : "40001"), RANGE, 25 + 2 * k);
+            Check.bad(before + "test v" + numbers(k, "x"), SYNTAX, 25 + 2 * k);
             if (distance) {
-                bad(before + "test v" + numbers(k, "0"), RANGE, 25 + 2 * k);
+                Check.bad(before + "test v" + numbers(k, "0"), RANGE, 25 + 2 * k);
             }
         }
     }
@@ -315,24 +315,24 @@ public final class LoadTest {
         for (int k = 0; k < 3; k++) {
             String set = "set " + names[k];
             int place = set.length() + 1;
-            Check.due("12: least " + names[k], good(set + " " + least[k] + ";", 1).getSetting(k), least[k]);
-            Check.due("12: greatest " + names[k], good(set + " " + greatest[k] + ";", 1).getSetting(k), greatest[k]);
-            bad(set + " " + (greatest[k] + 1) + ";", RANGE, place);
-            bad(set + ";", SYNTAX, place - 1);
-            bad(set + " down;", SYNTAX, place);
-            bad(set + " 5 6;", SYNTAX, place + 2);
-            bad(set + " 5", SYNTAX, place + 1);
-            bad(set + " 5;" + set + " 999;", DUPLICATE, place + 2 + 5 - 1);
-            bad(set + "s 5;", SYNTAX, 4);
+            Check.due("12: least " + names[k], Check.good(set + " " + least[k] + ";", 1).getSetting(k), least[k]);
+            Check.due("12: greatest " + names[k], Check.good(set + " " + greatest[k] + ";", 1).getSetting(k), greatest[k]);
+            Check.bad(set + " " + (greatest[k] + 1) + ";", RANGE, place);
+            Check.bad(set + ";", SYNTAX, place - 1);
+            Check.bad(set + " down;", SYNTAX, place);
+            Check.bad(set + " 5 6;", SYNTAX, place + 2);
+            Check.bad(set + " 5", SYNTAX, place + 1);
+            Check.bad(set + " 5;" + set + " 999;", DUPLICATE, place + 2 + 5 - 1);
+            Check.bad(set + "s 5;", SYNTAX, 4);
         }
-        bad("set sight 0;", RANGE, 10);
-        bad("set", SYNTAX, 3);
-        bad("set;", SYNTAX, 3);
-        bad("set a 5;", SYNTAX, 4);
-        bad("set level 5;", SYNTAX, 4);
-        bad("set 5;", SYNTAX, 4);
-        bad("set toleranc 5;", SYNTAX, 4);
-        LevelNetwork x = good("set balance 1;set sight 2;set tolerance 3;", 3);
+        Check.bad("set sight 0;", RANGE, 10);
+        Check.bad("set", SYNTAX, 3);
+        Check.bad("set;", SYNTAX, 3);
+        Check.bad("set a 5;", SYNTAX, 4);
+        Check.bad("set level 5;", SYNTAX, 4);
+        Check.bad("set 5;", SYNTAX, 4);
+        Check.bad("set toleranc 5;", SYNTAX, 4);
+        LevelNetwork x = Check.good("set balance 1;set sight 2;set tolerance 3;", 3);
         Check.due("a setting may be given again in the next text", Check.load(x, "set sight 4;"), 1);
     }
 
@@ -341,25 +341,25 @@ public final class LoadTest {
         for (int k = 0; k < 3; k++) {
             text.append("level ").append((char) ('a' + k)).append(" 1;");
         }
-        good(text.toString(), 3);
-        bad(text + "level d 1;", COUNT, 30);
-        bad(text + "level", COUNT, 30);
+        Check.good(text.toString(), 3);
+        Check.bad(text + "level d 1;", COUNT, 30);
+        Check.bad(text + "level", COUNT, 30);
         text.setLength(0);
         for (int k = 0; k < 16; k++) {
             text.append("point ").append((char) ('a' + k)).append(';');
         }
-        good(text.toString(), 16);
-        bad(text + " point q;", COUNT, 129);
-        bad(text + "point a;", COUNT, 128);
+        Check.good(text.toString(), 16);
+        Check.bad(text + " point q;", COUNT, 129);
+        Check.bad(text + "point a;", COUNT, 128);
         String three = "level v 1;point a;point b;";
         String lines = three + "line a b v 0 0 1 1;".repeat(20);
-        Check.due("7: twenty lines", good(lines, 23).lineCount(), 20);
-        bad(lines + "line a b v 0 0 1 1;", COUNT, 406);
-        bad(lines + "line ;", COUNT, 406);
+        Check.due("7: twenty lines", Check.good(lines, 23).lineCount(), 20);
+        Check.bad(lines + "line a b v 0 0 1 1;", COUNT, 406);
+        Check.bad(lines + "line ;", COUNT, 406);
         String tests = three + "test v 0 0 1 1 0 0 1 1;".repeat(6);
-        Check.due("8: six tests", good(tests, 9).testCount(), 6);
-        bad(tests + "test v 0 0 1 1 0 0 1 1;", COUNT, 164);
-        bad(tests + "test", COUNT, 164);
+        Check.due("8: six tests", Check.good(tests, 9).testCount(), 6);
+        Check.bad(tests + "test v 0 0 1 1 0 0 1 1;", COUNT, 164);
+        Check.bad(tests + "test", COUNT, 164);
     }
 
     private static void positions() {
@@ -367,22 +367,7 @@ public final class LoadTest {
         Check.feed(x, "point a;point b;    ");
         Check.due("3: a text that ends too early", x.load(7), SYNTAX);
         Check.due("4: the position is its length", x.errorPosition(), 7);
-        bad("point a 99999999;level 1;", RANGE, 8);
-        bad("\n\n point a\n\n99999999;", RANGE, 12);
-    }
-
-    private static LevelNetwork good(String text, int statements) {
-        LevelNetwork x = new LevelNetwork();
-        Check.due("load of " + text, Check.load(x, text), statements);
-        Check.due("no error in " + text, x.errorPosition(), LevelNetwork.NOT_FOUND);
-        return x;
-    }
-
-    private static void bad(String text, int code, int position) {
-        LevelNetwork x = new LevelNetwork();
-        Check.due("load of " + text, Check.load(x, text), code);
-        Check.due("position of the error of " + text, x.errorPosition(), position);
-        Check.due("points after " + text, x.pointCount(), 0);
-        Check.due("sight after " + text, x.getSetting(LevelNetwork.SIGHT), 60);
+        Check.bad("point a 99999999;level 1;", RANGE, 8);
+        Check.bad("\n\n point a\n\n99999999;", RANGE, 12);
     }
 }

@@ -2,13 +2,17 @@ import java.lang.reflect.InvocationTargetException;
 import java.lang.reflect.Method;
 import java.lang.reflect.Modifier;
 import java.util.ArrayList;
+import java.util.Arrays;
+import java.util.Collections;
 import java.util.Comparator;
 import java.util.List;
 import java.util.Random;
 
 /** Long runs of drawn calls, each answered by the class as by the Model. The draws are the same each time. */
 public final class ModelTest {
-    private static final int RUNS = 1500;
+    private static final int RUNS = 4000;
+    /** What later calls of an object answer is free. */
+    private static final int CALLS = 512;
     private static final int[] WILD = {Integer.MIN_VALUE, Integer.MIN_VALUE + 1, -2147483000, -65536, -33, -1, 21, 32, 33, 64,
         1000, 65536, 9999999, 10000000, 1 << 30, Integer.MAX_VALUE - 1, Integer.MAX_VALUE};
 
@@ -20,6 +24,7 @@ public final class ModelTest {
     private final List<Method> asking = new ArrayList<>();
     private final List<Method> changing = new ArrayList<>();
     private boolean wrong = false;
+    private int used = 0;
 
     private ModelTest(int run) {
         this.run = run;
@@ -48,47 +53,57 @@ public final class ModelTest {
 
     private void play() {
         load(text());
-        for (int round = 0; round < 12 && !wrong; round++) {
+        for (int round = 0; round < 8 && goesOn(); round++) {
             int kind = random.nextInt(20);
             if (kind == 0) {
                 load(text());
             } else if (kind < 3) {
                 load(spoilt(text()));
             }
-            for (int k = random.nextInt(4); k >= 0 && !wrong; k--) {
+            for (int k = random.nextInt(4); k >= 0 && goesOn(); k--) {
                 call(changing.get(random.nextInt(changing.size())));
             }
-            for (int k = 0; k < 24 && !wrong; k++) {
+            for (int k = 0; k < 24 && goesOn(); k++) {
                 call(asking.get(random.nextInt(asking.size())));
             }
-            if (round % 4 == 3) {
-                everything();
-            }
         }
+        everything();
     }
 
-    /** Every question without parameters, and every one with one parameter for each index. */
+    private boolean goesOn() {
+        return !wrong && used < CALLS;
+    }
+
+    /**
+     * Every question without parameters, with each index, with each pair of points and each line of a
+     * loop: in an order that is drawn, as many as may be asked still.
+     */
     private void everything() {
+        List<Object[]> questions = new ArrayList<>();
         for (Method method : asking) {
             if (method.getParameterCount() == 0) {
-                call(method, new Object[0]);
-            } else if (method.getParameterCount() == 1) {
-                for (int index = -1; index <= 20 && !wrong; index++) {
-                    call(method, new Object[] {index});
-                }
+                questions.add(new Object[] {method});
+            }
+            for (int index = -1; method.getParameterCount() == 1 && index <= 20; index++) {
+                questions.add(new Object[] {method, index});
             }
         }
-        for (int loop = 0; loop < model.loopCount() && !wrong; loop++) {
-            for (int k = 0; k < 18 && !wrong; k++) {
-                call(named("loopLine"), new Object[] {loop, k});
+        for (int loop = 0; loop < model.loopCount(); loop++) {
+            for (int k = 0; k < 18; k++) {
+                questions.add(new Object[] {named("loopLine"), loop, k});
             }
         }
-        for (int point = 0; point < model.pointCount() && !wrong; point++) {
-            for (int other = 0; other < model.pointCount() && !wrong; other++) {
-                call(named("riseBetween"), new Object[] {point, other});
-                call(named("wayBetween"), new Object[] {point, other});
-                call(named("benchGap"), new Object[] {point, other});
+        for (int point = 0; point < model.pointCount(); point++) {
+            for (int other = 0; other < model.pointCount(); other++) {
+                questions.add(new Object[] {named("riseBetween"), point, other});
+                questions.add(new Object[] {named("wayBetween"), point, other});
+                questions.add(new Object[] {named("benchGap"), point, other});
             }
+        }
+        Collections.shuffle(questions, random);
+        for (int k = 0; k < questions.size() && goesOn(); k++) {
+            Object[] question = questions.get(k);
+            call((Method) question[0], Arrays.copyOfRange(question, 1, question.length));
         }
     }
 
@@ -152,6 +167,7 @@ public final class ModelTest {
             told.append(arg).append(' ');
         }
         calls.add(told.toString().trim() + ")");
+        used++;
         String got = answer(method, x, args);
         String due;
         try {
@@ -178,6 +194,11 @@ public final class ModelTest {
     // ---- texts
 
     private void load(String text) {
+        int needed = (text.length() + 19) / 20 + 3;
+        if (used + needed > CALLS) {
+            return;
+        }
+        used += needed;
         calls.add("load of " + text);
         Check.feed(x, text);
         for (int at = 0; at < text.length(); at += 20) {
