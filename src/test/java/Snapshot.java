@@ -11,7 +11,7 @@ final class Snapshot {
     private static final List<Method> ASKING = asking();
     private static final int[] GREATEST = {20, 16, 4};
     /** An object may be asked 512 times in all; those that make it need some of these calls. */
-    private static final int QUESTIONS = 400;
+    private static final int QUESTIONS = 300;
 
     private final Supplier<LevelNetwork> made;
     private final StringBuilder answers = new StringBuilder();
