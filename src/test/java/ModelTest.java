@@ -53,6 +53,9 @@ public final class ModelTest {
 
     private void play() {
         load(text());
+        if (run % 10 == 0) {
+            fill();
+        }
         for (int round = 0; round < 8 && goesOn(); round++) {
             int kind = random.nextInt(20);
             if (kind == 0) {
@@ -68,6 +71,20 @@ public final class ModelTest {
             }
         }
         everything();
+    }
+
+    /** More setups for all lines, up to the limit for most, with the numbers that are the greatest or the least. */
+    private void fill() {
+        for (int setup = 1 + random.nextInt(3); setup <= 8; setup++) {
+            for (int line = 0; line < model.lineCount() && goesOn(); line++) {
+                call(named(changing, "addSetup"), new Object[] {line, extreme(0, 40000), extreme(0, 40000), extreme(1, 100), extreme(1, 100)});
+            }
+        }
+    }
+
+    private int extreme(int least, int greatest) {
+        int kind = random.nextInt(5);
+        return kind < 2 ? least : kind < 4 ? greatest : least + random.nextInt(greatest - least + 1);
     }
 
     private boolean goesOn() {
@@ -90,14 +107,14 @@ public final class ModelTest {
         }
         for (int loop = 0; loop < model.loopCount(); loop++) {
             for (int k = 0; k < 18; k++) {
-                questions.add(new Object[] {named("loopLine"), loop, k});
+                questions.add(new Object[] {named(asking, "loopLine"), loop, k});
             }
         }
         for (int point = 0; point < model.pointCount(); point++) {
             for (int other = 0; other < model.pointCount(); other++) {
-                questions.add(new Object[] {named("riseBetween"), point, other});
-                questions.add(new Object[] {named("wayBetween"), point, other});
-                questions.add(new Object[] {named("benchGap"), point, other});
+                questions.add(new Object[] {named(asking, "riseBetween"), point, other});
+                questions.add(new Object[] {named(asking, "wayBetween"), point, other});
+                questions.add(new Object[] {named(asking, "benchGap"), point, other});
             }
         }
         Collections.shuffle(questions, random);
@@ -107,8 +124,8 @@ public final class ModelTest {
         }
     }
 
-    private Method named(String name) {
-        for (Method method : asking) {
+    private static Method named(List<Method> methods, String name) {
+        for (Method method : methods) {
             if (method.getName().equals(name)) {
                 return method;
             }
